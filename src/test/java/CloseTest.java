@@ -241,5 +241,11 @@ public final class CloseTest {
         Due.is("recover", x.recover() > 0 ? 1 : 0, 1);
         Due.is("lines", x.entry(closing + 1, 3), 60);
         Due.is("the owner's", x.lineOf(closing + 1, 59, 1), -1770);
+        // The books made anew take the room of those before, however often.
+        for (int i = 0; i < 150; i++) {
+            x.crash(0, 0);
+            x.recover();
+        }
+        Due.is("lines of all times", x.lineOf(closing + 1, 59, 1), -1770);
     }
 }

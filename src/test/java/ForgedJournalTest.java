@@ -57,6 +57,8 @@ public final class ForgedJournalTest {
         }
         Due.is("the journal is cut", x.count(5), kept);
         Due.is("and durable", x.count(6), kept);
+        x.crash(0, 0);
+        Due.is("what is left is good", x.recover(), done);
         Due.is("the lines are as they were", Due.linesOf(x, 0), "0:5 2:-5");
         return done - before;
     }

@@ -139,6 +139,10 @@ public final class JournalTest {
         Due.is("none is kept, none is laid", x.crash(0, 255), durable);
         Due.is("durable bytes stay", x.recover(), 7);
         Due.is("up", x.count(10), 1);
+        LedgerTwice z = Due.smallBooks();
+        int first = z.byteAt(0);
+        Due.is("one is kept", z.crash(1, 5), 1);
+        Due.is("laid upon it", z.byteAt(0), first ^ 5);
         LedgerTwice y = new LedgerTwice();
         Due.is("nothing to keep", y.crash(9, 9), 0);
         Due.is("nothing to do", y.recover(), 0);

@@ -4,6 +4,7 @@ public final class SheetTest {
 
     public static void main(String[] args) {
         balances();
+        deepBalances();
         sums();
         ways();
         money();
@@ -47,6 +48,24 @@ public final class SheetTest {
         Due.is("account -1", x.balance(-1), Due.LEAST);
         Due.is("an empty group", x.account(4, 0, -1, true), 11);
         Due.is("an empty group", x.balance(11), 0);
+    }
+
+    private static void deepBalances() {
+        LedgerTwice x = new LedgerTwice();
+        for (int depth = 0; depth < 5; depth++) {
+            x.account(10 + depth, 0, depth - 1, true);
+        }
+        x.account(1, 0, 4, false);
+        x.account(2, 3, -1, false);
+        x.period(30);
+        Due.move(x, 6, 5, 42, 3);
+        for (int depth = 0; depth <= 5; depth++) {
+            Due.is("balance in depth " + depth, x.balance(depth), 42);
+            Due.is("sum in depth " + depth, x.sum(depth, 0, 30), 42);
+        }
+        x.sheet(1);
+        Due.is("a row more to the right each", Due.sheetOf(x), "0010 0.42\n  0011 0.42\n    0012 0.42\n"
+            + "      0013 0.42\n        0014 0.42\n          0001 0.42\n0002 -0.42\n");
     }
 
     private static void sums() {
