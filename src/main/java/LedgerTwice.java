@@ -201,9 +201,18 @@ public final class LedgerTwice {
         if (up) {
             return NOT;
         }
-        recovery.redoAll();
+        books.clear();
+        int start = 0;
+        int done = 0;
+        int length = journal.recordAt(start);
+        while (length > 0 && start < MOST_JOURNAL && recovery.redo(start, length)) {
+            start += length;
+            done++;
+            length = journal.recordAt(start);
+        }
+        journal.cut(start, done);
         up = true;
-        return journal.records;
+        return done;
     }
 
     public int byteAt(int i) {
@@ -443,10 +452,6 @@ public final class LedgerTwice {
             cells[i] = v;
         }
 
-        void addTo(int i, long v) {
-            put(i, at(i) + v);
-        }
-
         void clear() {
             Arrays.fill(cells, 0L);
         }
@@ -523,7 +528,7 @@ public final class LedgerTwice {
             long left = Math.abs(rest);
             for (int round = 0; round < size && round < left; round++) {
                 int next = withGreatestRemainder();
-                parts.addTo(next, one);
+                parts.put(next, parts.at(next) + one);
                 // Below every remainder: each gets one of the rest only once.
                 remainders.put(next, -1);
             }
@@ -611,7 +616,7 @@ public final class LedgerTwice {
         }
 
         void enterLine(int leaf, long amount) {
-            balances.addTo(leaf, amount);
+            balances.put(leaf, balances.at(leaf) + amount);
             lineCounts.put(leaf, lineCounts.at(leaf) + 1);
         }
 
@@ -798,7 +803,8 @@ public final class LedgerTwice {
             for (int e = 0; e < size; e++) {
                 if (days.at(e) >= from && days.at(e) <= to) {
                     for (int i = 0; i < lineCounts.at(e); i++) {
-                        into.addTo(accountOf(e, i), amountOf(e, i));
+                        int leaf = accountOf(e, i);
+                        into.put(leaf, into.at(leaf) + amountOf(e, i));
                     }
                 }
             }
@@ -852,7 +858,7 @@ public final class LedgerTwice {
         final Periods periods = new Periods();
         final Entries entries = new Entries();
         int owner = NONE;
-        // A number for each account, for whoever needs one for a while.
+        // What each leaf has in the days that were asked for last.
         private final Longs tally = new Longs(MOST_ACCOUNTS);
 
         void clear() {
@@ -953,13 +959,13 @@ public final class LedgerTwice {
         }
 
         private boolean goesOver(Lines lines) {
-            tally.clear();
-            for (int i = 0; i < lines.size; i++) {
-                tally.addTo(lines.accounts.at(i), lines.amounts.at(i));
-            }
             for (int i = 0; i < lines.size; i++) {
                 int leaf = lines.accounts.at(i);
-                if (!isWithin(accounts.balances.at(leaf) + tally.at(leaf), MOST_BALANCE)) {
+                long balance = accounts.balances.at(leaf);
+                for (int j = 0; j < lines.size; j++) {
+                    balance += lines.accounts.at(j) == leaf ? lines.amounts.at(j) : 0;
+                }
+                if (!isWithin(balance, MOST_BALANCE)) {
                     return true;
                 }
             }
@@ -1159,7 +1165,7 @@ public final class LedgerTwice {
         }
     }
 
-    /** Makes the books anew from the journal, record by record. */
+    /** Does the records of the journal anew, one by one. */
     private static final class Recovery {
         private final Journal journal;
         private final Books books;
@@ -1174,20 +1180,8 @@ public final class LedgerTwice {
             this.books = books;
         }
 
-        void redoAll() {
-            books.clear();
-            int start = 0;
-            int done = 0;
-            int length = journal.recordAt(start);
-            while (length > 0 && start < MOST_JOURNAL && redo(start, length)) {
-                start += length;
-                done++;
-                length = journal.recordAt(start);
-            }
-            journal.cut(start, done);
-        }
-
-        private boolean redo(int start, int length) {
+        /** False if the record can't be done: then nothing is changed. */
+        boolean redo(int start, int length) {
             at = start + 2;
             end = start + length - 2;
             faulty = false;
@@ -1359,7 +1353,7 @@ public final class LedgerTwice {
                 writeLeaves();
             } else if (way == 1) {
                 for (int kind = 0; kind < KINDS; kind++) {
-                    writeUnder(NONE, kind, 0);
+                    writeUnder(this, NONE, kind, 0);
                 }
             } else {
                 writeKinds();
@@ -1380,15 +1374,16 @@ public final class LedgerTwice {
             }
         }
 
-        private void writeUnder(int parent, int kind, int depth) {
+        private static void writeUnder(Sheet sheet, int parent, int kind, int depth) {
             if (depth > MOST_DEPTH) {
                 return;
             }
-            for (int i = 0; i < accounts.size; i++) {
-                int account = accounts.byCode.at(i);
-                if (accounts.parents.at(account) == parent && accounts.kinds.at(account) == kind) {
-                    writeRow(account);
-                    writeUnder(account, kind, depth + 1);
+            Accounts all = sheet.accounts;
+            for (int i = 0; i < all.size; i++) {
+                int account = all.byCode.at(i);
+                if (all.parents.at(account) == parent && all.kinds.at(account) == kind) {
+                    sheet.writeRow(account);
+                    writeUnder(sheet, account, kind, depth + 1);
                 }
             }
         }
