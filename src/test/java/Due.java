@@ -1,8 +1,14 @@
+import java.util.function.LongSupplier;
+
 /** Compares what a call answers with what is due, and ends a test with exit code 1 if anything was wrong. */
 final class Due {
     static final long LEAST = Long.MIN_VALUE;
+    static final long MOST = 1000000000000000L;
+    static final int LEAST_INT = Integer.MIN_VALUE;
+    static final int MOST_INT = Integer.MAX_VALUE;
     private static int asked = 0;
     private static int wrong = 0;
+    private static String sentence = "";
 
     private Due() {
     }
@@ -11,7 +17,7 @@ final class Due {
         asked++;
         if (got != want) {
             wrong++;
-            System.out.println(call + " answered " + got + ", due is " + want);
+            System.out.println(sentence + call + " answered " + got + ", due is " + want);
         }
     }
 
@@ -19,12 +25,25 @@ final class Due {
         asked++;
         if (!got.equals(want)) {
             wrong++;
-            System.out.println(call + " answered\n" + got + "\ndue is\n" + want);
+            System.out.println(sentence + call + " answered\n" + got + "\ndue is\n" + want);
         }
     }
 
     static void isTrue(String what, boolean holds) {
         is(what, holds ? 1 : 0, 1);
+    }
+
+    /** The words of the document that what is asked for next belongs to. */
+    static void says(String words) {
+        isTrue("the document says: " + words, Document.words().contains(words));
+        sentence = "[" + words + "]\n  ";
+    }
+
+    /** A call that is refused: nothing that is told changes by it. */
+    static void refused(LedgerTwice x, String call, LongSupplier ask, long want) {
+        String before = told(x);
+        is(call, ask.getAsLong(), want);
+        isTrue(call + " changes nothing", told(x).equals(before));
     }
 
     static void end() {
@@ -80,5 +99,76 @@ final class Due {
             text.append(x.byteAt(i)).append(' ');
         }
         return text.toString().trim();
+    }
+
+    /** All that is told of the books, the draft's lines but for their number, the journal and the sheet. */
+    static String told(LedgerTwice x) {
+        StringBuilder text = new StringBuilder(journalOf(x)).append('\n');
+        for (int what = 0; what <= 10; what++) {
+            text.append(x.count(what)).append(' ');
+        }
+        return x.count(10) == 0 ? text.toString() : text.append(sheetOf(x)).append(booksOf(x)).toString();
+    }
+
+    static String booksOf(LedgerTwice x) {
+        StringBuilder text = new StringBuilder();
+        for (int a = 0; a < x.count(0); a++) {
+            for (int what = 0; what <= 6; what++) {
+                text.append(x.of(a, what)).append(' ');
+            }
+            text.append(x.balance(a)).append(' ').append(x.sum(a, 0, 30)).append('\n');
+            for (int i = 0; i < x.of(a, 6); i++) {
+                text.append(x.ledger(a, i, 0)).append(' ').append(x.ledger(a, i, 2)).append(' ');
+            }
+        }
+        for (int p = 0; p < x.count(1); p++) {
+            for (int what = 0; what <= 3; what++) {
+                text.append(x.periodOf(p, what)).append(' ');
+            }
+        }
+        for (int e = 0; e < x.count(3); e++) {
+            for (int what = 0; what <= 5; what++) {
+                text.append(x.entry(e, what)).append(' ');
+            }
+            text.append(linesOf(x, e)).append('\n');
+        }
+        return text.append(x.count(2)).append(' ').append(x.count(7)).append(' ').append(x.count(8)).toString();
+    }
+
+    /** Small books with so many entries: one of income, then closings and openings of period 0, to and fro. */
+    static LedgerTwice booksOfEntries(int many) {
+        LedgerTwice x = smallBooks();
+        move(x, 2, 0, 1, 3);
+        return turned(x, many);
+    }
+
+    /** Period 0 is closed and opened till there are so many entries. */
+    static LedgerTwice turned(LedgerTwice x, int many) {
+        for (int i = x.count(3); i < many; i++) {
+            is("close, reopen", x.count(2) == 0 ? x.close() : x.reopen(), 0);
+        }
+        return x;
+    }
+
+    /** Small books of which the journal has room for just so many bytes more. */
+    static LedgerTwice booksWithRoom(int left) {
+        LedgerTwice x = smallBooks();
+        for (int i = 0; room(x) - left >= 54; i++) {
+            x.line(0, 1);
+            is("share", x.share(2, i % 2 == 0 ? MOST : -MOST, 60, LEAST_INT), i);
+        }
+        // What is left is put together of records of 6 and 5 bytes.
+        for (int i = 0; (room(x) - left) % 5 != 0; i++) {
+            is("shut", x.shut(3, i % 2 == 0), i % 2);
+        }
+        while (room(x) > left) {
+            is("owner", x.owner(1), 1);
+        }
+        is("room", room(x), left);
+        return x;
+    }
+
+    static int room(LedgerTwice x) {
+        return 6000 - x.count(5);
     }
 }

@@ -222,45 +222,20 @@ public final class JournalTest {
         return at;
     }
 
-    private static String all(LedgerTwice x) {
-        StringBuilder text = new StringBuilder();
-        for (int a = 0; a < x.count(0); a++) {
-            for (int what = 0; what <= 6; what++) {
-                text.append(x.of(a, what)).append(' ');
-            }
-            text.append(x.balance(a)).append(x.sum(a, 0, 30)).append('\n');
-            for (int i = 0; i < x.of(a, 6); i++) {
-                text.append(x.ledger(a, i, 0)).append(' ').append(x.ledger(a, i, 2)).append(' ');
-            }
-        }
-        for (int p = 0; p < x.count(1); p++) {
-            for (int what = 0; what <= 3; what++) {
-                text.append(x.periodOf(p, what)).append(' ');
-            }
-        }
-        for (int e = 0; e < x.count(3); e++) {
-            for (int what = 0; what <= 5; what++) {
-                text.append(x.entry(e, what)).append(' ');
-            }
-            text.append(Due.linesOf(x, e)).append('\n');
-        }
-        return text.append(x.count(2)).append(' ').append(x.count(7)).append(' ').append(x.count(8)).toString();
-    }
-
     private static void recoverKeepsAll() {
         LedgerTwice x = filled();
-        String before = all(x);
+        String before = Due.booksOf(x);
         String bytes = Due.journalOf(x);
         int records = x.count(7);
         Due.is("up already", x.recover(), -6);
         x.crash(6000, 0);
         Due.is("recover", x.recover(), records);
-        Due.is("all is as it was", all(x), before);
+        Due.is("all is as it was", Due.booksOf(x), before);
         Due.is("bytes", Due.journalOf(x), bytes);
         Due.is("up already", x.recover(), -6);
         x.crash(0, 255);
         Due.is("all was durable", x.recover(), records);
-        Due.is("all is as it was", all(x), before);
+        Due.is("all is as it was", Due.booksOf(x), before);
     }
 
     private static void downIsNot() {
@@ -333,7 +308,7 @@ public final class JournalTest {
         }
         int bytes = x.count(5);
         int records = x.count(7);
-        String before = all(x);
+        String before = Due.booksOf(x);
         Due.is("account", x.account(1, 0, -1, false), -13);
         Due.is("shut", x.shut(3, x.of(3, 4) == 0), -13);
         Due.is("period", x.period(90), -13);
@@ -349,7 +324,7 @@ public final class JournalTest {
         Due.is("the draft is kept", x.count(4), 1);
         Due.is("nothing was written", x.count(5), bytes);
         Due.is("nothing was written", x.count(7), records);
-        Due.is("nothing was changed", all(x), before);
+        Due.is("nothing was changed", Due.booksOf(x), before);
         boolean room = bytes + 4 <= 6000;
         Due.is("close", x.close(), room ? 0 : -13);
         Due.is("reopen", x.reopen(), room ? -13 : -6);
