@@ -66,6 +66,25 @@ final class Due {
         return x;
     }
 
+    /** The owner's leaf 0 and 59 leaves of income and costs, on each as many ones as its number; one period. */
+    static LedgerTwice booksToCloseWidely() {
+        LedgerTwice x = new LedgerTwice();
+        x.account(1, 2, -1, false);
+        for (int i = 1; i < 60; i++) {
+            x.account(1 + i, 3 + i % 2, -1, false);
+        }
+        x.period(30);
+        x.owner(0);
+        for (int i = 1; i < 60; i += 4) {
+            for (int k = i; k < i + 4 && k < 60; k++) {
+                x.line(k, k);
+                x.line(0, -k);
+            }
+            x.post(3, 3);
+        }
+        return x;
+    }
+
     /** An entry of two lines: amount on one leaf, less it on the other. */
     static int move(LedgerTwice x, int from, int to, long amount, int day) {
         x.line(to, amount);

@@ -61,6 +61,11 @@ public final class EdgesBytesTest {
             Due.is("crash", x.crash(4, by), 12);
             Due.is("by " + by, x.byteAt(11), last ^ by);
         }
+        LedgerTwice y = new LedgerTwice();
+        y.account(1, 0, -1, false);
+        int first = y.byteAt(0);
+        Due.is("the only one", y.crash(1, 5), 1);
+        Due.is("the only one", y.byteAt(0), first ^ 5);
         LedgerTwice x = new LedgerTwice();
         x.account(1, 0, -1, false);
         int last = x.byteAt(7);

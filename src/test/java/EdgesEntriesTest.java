@@ -346,6 +346,17 @@ public final class EdgesEntriesTest {
         Due.is("so there is nothing to open", x.reopen(), 0);
         Due.is("no opening of the one before", x.count(3), 4);
         Due.is("the owner", x.balance(1), 0);
+        LedgerTwice y = Due.smallBooks();
+        Due.move(y, 2, 0, 5, 33);
+        y.close();
+        y.back(0, 33);
+        Due.is("no opening of what came between", y.reopen(), 0);
+        Due.is("no opening of what came between", y.count(3), 2);
+        y.close();
+        y.line(0, 1);
+        y.share(3, 1, 33, 3);
+        Due.is("no opening of what came between", y.reopen(), 0);
+        Due.is("no opening of what came between", y.count(3), 3);
     }
 
     private static void reopenRefused() {

@@ -189,8 +189,14 @@ public final class EdgesJudgeTest {
         x.line(0, 1);
         x.line(0, -1);
         Due.is("only those that it has", x.post(3, 3), 1);
+        x.shut(0, true);
+        x.shut(3, false);
+        x.line(3, 1);
+        x.line(3, -1);
+        Due.is("only those that it has", x.post(3, 3), 2);
+        x.shut(0, false);
         x.shut(2, false);
-        Due.is("not any more", x.back(0, 3), 2);
+        Due.is("not any more", x.back(0, 3), 3);
     }
 
     private static void over() {
@@ -264,13 +270,14 @@ public final class EdgesJudgeTest {
             + "of that PERIOD's DAYS together are not 0: a LINE of less that");
         LedgerTwice x = new LedgerTwice();
         x.account(9999, 3, -1, false);
-        x.account(1, 2, -1, false);
-        x.account(2, 4, -1, true);
+        x.account(2, 2, -1, false);
+        x.account(11, 4, -1, true);
         x.account(10, 4, 2, false);
         x.account(9, 3, -1, false);
         x.account(5, 4, 2, false);
         x.account(4, 0, -1, false);
         x.account(3, 1, -1, false);
+        x.account(1, 3, -1, false);
         x.period(30);
         x.owner(1);
         Due.move(x, 6, 0, 1, 3);
@@ -279,8 +286,9 @@ public final class EdgesJudgeTest {
         Due.move(x, 6, 5, 4000, 3);
         Due.move(x, 4, 6, 300, 3);
         Due.move(x, 7, 6, 9, 3);
+        Due.move(x, 8, 6, 50000, 3);
         x.close();
-        Due.is("by codes, none that has nothing", Due.linesOf(x, 6), "5:-4000 3:-20 0:-1 1:4021");
+        Due.is("by codes, none that has nothing", Due.linesOf(x, 7), "8:50000 5:-4000 3:-20 0:-1 1:-45979");
     }
 
     private static void closingOfThePeriod() {
@@ -377,20 +385,7 @@ public final class EdgesJudgeTest {
 
     private static void otherNumbersOfLines() {
         Due.says("(These may have other numbers of LINES, SHUT LEAVES, AMOUNTS that are greater.)");
-        LedgerTwice x = new LedgerTwice();
-        x.account(1, 2, -1, false);
-        for (int i = 1; i < 60; i++) {
-            x.account(1 + i, 3 + i % 2, -1, false);
-        }
-        x.period(30);
-        x.owner(0);
-        for (int i = 1; i < 60; i += 4) {
-            for (int k = i; k < i + 4 && k < 60; k++) {
-                x.line(k, k);
-                x.line(0, -k);
-            }
-            x.post(3, 3);
-        }
+        LedgerTwice x = Due.booksToCloseWidely();
         int entries = x.count(3);
         Due.is("close", x.close(), 0);
         Due.is("far more than a draft has", x.entry(entries, 3), 60);

@@ -12,6 +12,7 @@ public final class EdgesSharesTest {
         greatestRemainder();
         firstOfSeveral();
         eachOnce();
+        oneAfterAnother();
         allOfIt();
         Due.end();
     }
@@ -130,6 +131,30 @@ public final class EdgesSharesTest {
         parts(3, 1000, 1000, 1000, 1, "1 1 1 0");
         parts(-3, 1000, 1000, 1000, 1, "-1 -1 -1 0");
         parts(2, 7, 7, 7, 0, "1 1 0 0");
+    }
+
+    /** What an earlier share left over must not be taken into account. */
+    private static void oneAfterAnother() {
+        Due.says("goes one by one to those with the greatest size of the remainder of a w by s");
+        LedgerTwice x = books();
+        Due.is("seven", shareBySeven(x), "0:-1 1:1");
+        Due.is("four", x.part(1, 1, 1, 1, 1, 0), 1);
+        Due.is("seven", shareBySeven(x), "0:-1 1:1");
+        x.line(1, 1);
+        x.line(2, 2);
+        Due.is("two", x.share(0, 1, 3, 3), 2);
+        Due.is("lines", Due.linesOf(x, 2), "0:-1 2:1");
+        x.line(3, 1);
+        Due.is("one", x.share(0, 1, 3, 3), 3);
+        Due.is("lines", Due.linesOf(x, 3), "0:-1 3:1");
+    }
+
+    /** Six great remainders are left over. */
+    private static String shareBySeven(LedgerTwice x) {
+        for (int i = 1; i <= 7; i++) {
+            x.line(i, 1000);
+        }
+        return Due.linesOf(x, x.share(0, 1, 3, 3));
     }
 
     /** Whatever is shared, nothing of it is left, and each is within one of what is due. */

@@ -1,5 +1,3 @@
-import java.lang.reflect.Field;
-
 /** The edges that stand under "5 THE SHEET". */
 public final class EdgesSheetTest {
     private static final long MOST = Due.MOST;
@@ -19,17 +17,11 @@ public final class EdgesSheetTest {
         Due.end();
     }
 
-    private static Object get(Object of, String name) throws Exception {
-        Field field = of.getClass().getDeclaredField(name);
-        field.setAccessible(true);
-        return field.get(of);
-    }
-
     /** Books of which row 0 is as wide as told: through the calls alone no sheet comes near to 4000 bytes. */
     private static LedgerTwice wide(int depth) throws Exception {
         LedgerTwice x = Due.smallBooks();
-        Object accounts = get(get(x, "books"), "accounts");
-        ((int[]) get(get(accounts, "depths"), "cells"))[0] = depth;
+        Object accounts = Inside.get(Inside.get(x, "books"), "accounts");
+        ((int[]) Inside.get(Inside.get(accounts, "depths"), "cells"))[0] = depth;
         return x;
     }
 

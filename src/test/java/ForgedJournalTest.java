@@ -1,5 +1,4 @@
 import java.io.ByteArrayOutputStream;
-import java.lang.reflect.Field;
 
 /**
  * Promise 15 for records that no call writes: numbers that are none, other sorts, refused ones. Through the calls
@@ -24,18 +23,6 @@ public final class ForgedJournalTest {
         Due.end();
     }
 
-    private static Object get(Object of, String name) throws Exception {
-        Field field = of.getClass().getDeclaredField(name);
-        field.setAccessible(true);
-        return field.get(of);
-    }
-
-    private static void set(Object of, String name, int v) throws Exception {
-        Field field = of.getClass().getDeclaredField(name);
-        field.setAccessible(true);
-        field.setInt(of, v);
-    }
-
     /** Small books with one entry, then these bytes behind the journal, then recovered: how many records more. */
     private static int recovered(byte[]... records) throws Exception {
         LedgerTwice x = Due.smallBooks();
@@ -47,20 +34,18 @@ public final class ForgedJournalTest {
         int before = x.count(7);
         String first = Due.linesOf(x, 0);
         int start = x.count(5);
-        Object journal = get(x, "journal");
-        Object bytes = get(journal, "bytes");
+        Object journal = Inside.get(x, "journal");
+        Object bytes = Inside.get(journal, "bytes");
         int[] cells = new int[6000];
-        System.arraycopy((int[]) get(bytes, "cells"), 0, cells, 0, start);
+        System.arraycopy((int[]) Inside.get(bytes, "cells"), 0, cells, 0, start);
         int size = start;
         for (byte[] record : records) {
             for (byte b : record) {
                 cells[size++] = b & 255;
             }
         }
-        Field field = bytes.getClass().getDeclaredField("cells");
-        field.setAccessible(true);
-        field.set(bytes, cells);
-        set(journal, "size", size);
+        Inside.set(bytes, "cells", cells);
+        Inside.set(journal, "size", size);
         x.crash(6000, 0);
         int done = x.recover();
         int kept = start;
@@ -285,6 +270,8 @@ public final class ForgedJournalTest {
         Due.is("a shut leaf", recovered(record(2, 4, 2), record(5, 60, 0, 4, 0, 2, 4, 1)), 1);
         Due.is("an amount of 0", recovered(record(5, 6, 0, 4, 0, 0, 4, 0)), 0);
         Due.is("an unknown leaf", recovered(record(5, 6, 0, 4, 0, 2, 8, 1)), 0);
+        Due.is("the last leaf is unknown", recovered(record(5, 6, 0, 6, 0, 2, 4, 1, 8, 2)), 0);
+        Due.is("the last amount is 0", recovered(record(5, 6, 0, 6, 0, 2, 4, 1, 0, 0)), 0);
         Due.is("leaf -1", recovered(record(5, 6, 0, 4, 0, 2, 1, 1)), 0);
         Due.is("a group", recovered(record(1, 2, 0, 1, 2), record(5, 6, 0, 4, 0, 2, 8, 1)), 1);
         Due.is("the most", recovered(record(5, 6, 0, 4,
