@@ -6,11 +6,30 @@ final class Due {
     static final long MOST = 1000000000000000L;
     static final int LEAST_INT = Integer.MIN_VALUE;
     static final int MOST_INT = Integer.MAX_VALUE;
+    private static final int MOST_CALLS = 512;
+    private static final int MOST_SECONDS = 300;
     private static int asked = 0;
     private static int wrong = 0;
     private static String sentence = "";
 
+    static {
+        // A call that does not end is a wrong answer, too: the test must not hang, but fail.
+        Thread guard = new Thread(Due::endLate);
+        guard.setDaemon(true);
+        guard.start();
+    }
+
     private Due() {
+    }
+
+    private static void endLate() {
+        try {
+            Thread.sleep(MOST_SECONDS * 1000L);
+        } catch (InterruptedException e) {
+            Thread.currentThread().interrupt();
+        }
+        System.out.println(sentence + "has not ended after " + MOST_SECONDS + " seconds");
+        Runtime.getRuntime().halt(1);
     }
 
     static void is(String call, long got, long want) {
@@ -98,7 +117,7 @@ final class Due {
 
     static String sheetOf(LedgerTwice x) {
         StringBuilder text = new StringBuilder();
-        for (int i = 0; x.shown(i) >= 0; i++) {
+        for (int i = 0; i <= 4000 && x.shown(i) >= 0; i++) {
             text.append((char) x.shown(i));
         }
         return text.toString();
@@ -172,15 +191,15 @@ final class Due {
     /** Small books of which the journal has room for just so many bytes more. */
     static LedgerTwice booksWithRoom(int left) {
         LedgerTwice x = smallBooks();
-        for (int i = 0; room(x) - left >= 54; i++) {
+        for (int i = 0; i < MOST_CALLS && room(x) - left >= 54; i++) {
             x.line(0, 1);
             is("share", x.share(2, i % 2 == 0 ? MOST : -MOST, 60, LEAST_INT), i);
         }
         // What is left is put together of records of 6 and 5 bytes.
-        for (int i = 0; (room(x) - left) % 5 != 0; i++) {
+        for (int i = 0; i < MOST_CALLS && (room(x) - left) % 5 != 0; i++) {
             is("shut", x.shut(3, i % 2 == 0), i % 2);
         }
-        while (room(x) > left) {
+        for (int i = 0; i < MOST_CALLS && room(x) > left; i++) {
             is("owner", x.owner(1), 1);
         }
         is("room", room(x), left);

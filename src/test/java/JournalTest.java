@@ -293,19 +293,9 @@ public final class JournalTest {
         Due.is("count of the least", x.count(Integer.MIN_VALUE), -3);
     }
 
-    /** Records of 6 bytes up to where 4, 5 or 6 more do not fit. */
+    /** There is room for a closing alone. */
     private static void journalFull() {
-        LedgerTwice x = Due.smallBooks();
-        for (int i = 0; x.count(5) + 31 <= 6000; i++) {
-            x.line(0, 1);
-            Due.is("share", x.share(2, i % 2 == 0 ? MOST : -MOST, 9, Integer.MIN_VALUE), i);
-        }
-        for (int i = 0; x.count(5) + 6 <= 6000; i++) {
-            Due.is("shut", x.shut(3, i % 2 == 0), i % 2);
-        }
-        while (x.count(5) + 5 <= 6000) {
-            Due.is("owner", x.owner(1), 1);
-        }
+        LedgerTwice x = Due.booksWithRoom(4);
         int bytes = x.count(5);
         int records = x.count(7);
         String before = Due.booksOf(x);
@@ -325,12 +315,11 @@ public final class JournalTest {
         Due.is("nothing was written", x.count(5), bytes);
         Due.is("nothing was written", x.count(7), records);
         Due.is("nothing was changed", Due.booksOf(x), before);
-        boolean room = bytes + 4 <= 6000;
-        Due.is("close", x.close(), room ? 0 : -13);
-        Due.is("reopen", x.reopen(), room ? -13 : -6);
+        Due.is("close", x.close(), 0);
+        Due.is("reopen", x.reopen(), -13);
         x.crash(6000, 0);
-        Due.is("recover", x.recover(), records + (room ? 1 : 0));
-        Due.is("bytes", x.count(5), bytes + (room ? 4 : 0));
+        Due.is("recover", x.recover(), records + 1);
+        Due.is("bytes", x.count(5), 6000);
         Due.is("still full", x.owner(1), -13);
     }
 }
